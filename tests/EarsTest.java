@@ -137,6 +137,37 @@ public final class EarsTest {
         Check.due("restore", x.restore(1), false);
     }
 
+    private static void sinceAndFromAreHeld() {
+        HillDrums x = Check.land(3, "news n at a; hears = if from < 2 then 10 - far else 1;");
+        x.hold(0);
+        x.run(1);
+        x.hold(1);
+        x.restore(0);
+        x.night();
+        x.night();
+        x.drum(0, 0, true);
+        x.night();
+        x.drum(1, 0, true);
+        Check.due("b since day 2", x.news(1, 0, 1), 2);
+        x.restore(1);
+        Check.due("b since day 0", x.news(1, 0, 1), 0);
+        Check.due("b said first", x.news(1, 0, 3), 0);
+        x = Check.told("hill a 0 0; hill b 0 0; hill c 0 0; news n at a; hears = if day < 1 then to * (2 - to) else to / 2;");
+        x.hold(0);
+        x.drum(0, 0, false);
+        x.night();
+        x.drum(1, 0, false);
+        x.hold(2);
+        Check.due("c from b", x.news(2, 0, 2), 1);
+        x.restore(0);
+        x.night();
+        x.drum(0, 0, true);
+        Check.due("c from a", x.news(2, 0, 2), 0);
+        x.restore(2);
+        Check.due("c from b again", x.news(2, 0, 2), 1);
+        Check.due("said", x.news(2, 0, 3), 0);
+    }
+
     private static void lawfulnessIsHeld() {
         HillDrums x = Check.land(2, "news n at a; order topic;");
         x.drum(0, 0, false);
@@ -173,6 +204,7 @@ public final class EarsTest {
         beginners();
         beginnersAsByTheText();
         holding();
+        sinceAndFromAreHeld();
         lawfulnessIsHeld();
         counting();
         Check.end();

@@ -39,7 +39,10 @@ public final class PlanTest {
         plans(Check.land(2, "news n at a; hears = 2 - day;"), 1, 1, 1, 1);
         plans(Check.land(2, "news n at a; hears = day - 1;"), 1, 2, 2, 1);
         plans(Check.land(2, "news n at a; hears = day - 59;"), 1, 60, 60, 1);
-        HillDrums x = Check.land(2, "news n at a; hears = day - 60;");
+        HillDrums x = Check.land(3, "news n at a; hears = if day < 2 then 0 else if 2 < day then 0 else 10 - far;");
+        plans(x, 2, -2, -2, -2);
+        plans(x, 1, 2, -2, -2);
+        x = Check.land(2, "news n at a; hears = day - 60;");
         plans(x, 1, -2, -2, -2);
         x.night();
         plans(x, 1, 60, 60, 1);
@@ -121,6 +124,11 @@ public final class PlanTest {
         way(Check.land(4, "news n at a; news m at b; order free;" + round), 0, 3, 0, 100, 300);
         way(Check.land(4, "news n at a; order other;" + round), 0, 3, 0, 100, 300);
         noWay(Check.land(4, "news n at a; order topic;" + round), 0, 3);
+        HillDrums back = Check.land(4, "news m at b; news n at d; order free; hears = " + Check.only("30 2 23") + ";");
+        Check.due("through the first hill", back.loophole(3, 2, 1), 3);
+        Check.due("d says n", back.loopholeAt(3, 2, 1, 0), 310);
+        Check.due("a says n", back.loopholeAt(3, 2, 1, 1), 10);
+        Check.due("c says n", back.loopholeAt(3, 2, 1, 2), 210);
         noWay(Check.land(4, "news n at a; order free; hears = " + Check.only("1 12 23 30") + ";"), 0, 3);
         HillDrums x = Check.land(3, "news n at a; order free;");
         for (int wrong : NO_NUMBERS) {

@@ -59,6 +59,10 @@ public final class RuleTest {
         }
         x.run(2);
         Check.due("a, b do by now", x.agreed(0, 1, 0, 1), 0);
+        x = Check.land(3, "news n at b; hears = if to < 1 then 1 else 0;");
+        Check.due("a, b", x.agreed(0, 1, 0, 0), 1);
+        Check.due("b, c", x.agreed(1, 2, 0, 0), -2);
+        Check.due("a, c", x.agreed(0, 2, 0, 0), -2);
     }
 
     private static void talk() {
@@ -86,6 +90,10 @@ public final class RuleTest {
         }
         x = Check.land(4, "news n at d; order topic;");
         Check.due("the other way", x.bestOrder(0, 1), 3);
+        x = Check.land(3, "news n at a; news m at c; news o at b; hears = if from < 2 then 0 else 2 - day;");
+        Check.due("of m", x.bestOrder(1, 1), 1);
+        Check.due("of n by none", x.bestOrder(0, 1), -2);
+        Check.due("of o by none", x.bestOrder(2, 0), -2);
         x = Check.land(2, "news n at a; hears = 0;");
         Check.due("by none", x.bestOrder(0, 0), -2);
         Check.due("by none", x.bestOrder(0, 1), -2);

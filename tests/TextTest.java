@@ -96,9 +96,24 @@ public final class TextTest {
         Check.fault(2, ifs + "@if 1 < 2 then 3 else 4;");
         Check.fault(2, ifs + "@if");
         Check.fine("hears = ((((((1)))))) + ((((((far))))));");
+        String six = "((((((1))))))";
+        Check.fine("hears = if " + six + " < " + six + " then " + six + " else " + six + ";");
+        Check.fault(2, "hears = if 1 < ((((((@(1))))))) then 3 else 4;");
+        Check.fault(2, "hears = if 1 < 2 then ((((((@(1))))))) else 4;");
         Check.fault(2, "hears = ((((((@(1)))))));");
         Check.fault(2, "hears = 1 + (2 * (3 - (4 / (5 + (6 - (7 + @(");
         Check.fault(2, "hears = if ((((((@(1)))))) < 2 then 3 else 4;");
+    }
+
+    /** NAMES that are like one another, and like words. */
+    private static void names() {
+        Check.fine("hill b 1 1;hill ab 1 1;hill ba 1 1;hill aa 1 1;hill bb 1 1;hill zzzzzzzz 1 1;news a at ab;news z at zzzzzzzz;");
+        Check.fine("hill fill 1 1;hill dog 1 1;hill ox 1 1;hill i 1 1;hill hills 1 1;hill hil 1 1;news new at dog;news an at ox;");
+        Check.fine("hill xzzzzzzz 1 1;hill yzzzzzzz 1 1;hill zzzzzzzx 1 1;hill zzzzzzzy 1 1;news azzzzzzz at zzzzzzzx;");
+        for (String word : ModelText.WORDS) {
+            Check.fault(1, "hill @" + word + " 1 1;");
+            Check.fine("hill x" + word + " 1 1; news " + word + "x at x" + word + ";");
+        }
     }
 
     private static void tokens() {
@@ -169,6 +184,47 @@ public final class TextTest {
         Check.due("the day of nothing", x.count(2), 0);
     }
 
+    private static void allIsNew() {
+        HillDrums x = Check.land(4, "news n at a; news m at b; news o at c; order free; wind 9; fog 9; hears = 1; sleeper a n 1;");
+        for (int news = 0; news < 3; news++) {
+            x.drum(news, news, true);
+        }
+        x.night();
+        for (int hill = 0; hill < 4; hill++) {
+            x.drum(hill, 0, hill % 2 == 0);
+        }
+        Check.due("all clash", x.clashes(0), 15);
+        Check.due("read", Check.read(x, "hill a 9 0; hill b 2 0; hill c 18 0; news n at c; news m at a; hears = 10 - far - wind - fog;"), 0);
+        for (int news = 0; news < 2; news++) {
+            Check.due("nobody clashes", x.clashes(news), 0);
+            for (int hill = 0; hill < 3; hill++) {
+                boolean home = hill == (news == 0 ? 2 : 0);
+                Check.due("known", x.news(hill, news, 0), home ? 1 : 0);
+                Check.due("since", x.news(hill, news, 1), home ? 0 : -2);
+                Check.due("from", x.news(hill, news, 2), home ? hill : -2);
+                Check.due("first", x.news(hill, news, 3), home ? 0 : -2);
+                Check.due("may", x.may(hill, news, false), home ? 1 : -3);
+            }
+        }
+        Check.due("pairs known", x.count(13), 2);
+        Check.due("7 apart", x.hears(0, 1, 0), 1);
+        Check.due("9 apart", x.hears(0, 2, 0), 1);
+        Check.due("16 apart", x.hears(1, 2, 0), 0);
+        Check.due("no sleeper", x.night(), 1);
+        Check.due("drums", x.count(4), 0);
+        Check.due("two hear", x.drum(0, 1, false), 2);
+        Check.due("first said", x.news(1, 1, 3), 0);
+        x.drum(0, 1, true);
+        Check.due("two clash", x.clashes(1), 6);
+        Check.due("a wrong meaning", Check.read(x, "hill a 1 1; hill a 2 2;"), 3);
+        Check.due("a right one", Check.read(x, "hill a 0 0; hill b 9 0; hill c 0 10;"), 0);
+        Check.due("place", x.place(), Check.NONE);
+        Check.due("no news", x.count(1), 0);
+        Check.due("known", x.count(13), 0);
+        Check.due("by the law of no telling", x.hears(0, 1, 0), 1);
+        Check.due("by the law of no telling", x.hears(0, 2, 0), 0);
+    }
+
     private static void lastOnesHold() {
         HillDrums x = Check.told("order any; order free; wind 1 2; wind; fog 1; fog 5 6 7;");
         Check.due("order", x.count(5), 0);
@@ -189,9 +245,11 @@ public final class TextTest {
         bytesInOrder();
         syntax();
         room();
+        names();
         tokens();
         meaning();
         readChangesNothing();
+        allIsNew();
         lastOnesHold();
         Check.end();
     }

@@ -25,6 +25,17 @@ public final class WorldTest {
         x = Check.told("hill a 0 0; hill b 0 0; hears = 0; hears = to - from;");
         Check.due("the last law", x.hears(0, 1, 0), 1);
         Check.due("the other way", x.hears(1, 0, 0), 0);
+        x = Check.told("hill a 0 0; hill b 0 0; wind 0 0 0 0 0 0 0 0 0 0 0 1; hears = wind;");
+        for (int day = 0; day < 40; day++) {
+            Check.due("a dozen winds, day " + day, x.hears(0, 1, day), day % 12 == 11 ? 1 : 0);
+        }
+        x = Check.land(2, "news n at a; hears = if day < 300 then 100 - day else day - 310;");
+        for (int days = 100; days <= 300; days += 100) {
+            Check.due("run", x.run(100), days);
+        }
+        Check.due("heard on day 44, not on day 300", x.drum(0, 0, false), 0);
+        x.run(11);
+        Check.due("heard on day 311", x.drum(0, 0, false), 1);
         x = Check.told("hill a 99 0; hill b 0 99; hears = 199 - far;");
         Check.due("198 apart", x.hears(1, 0, 0), 1);
     }
