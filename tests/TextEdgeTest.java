@@ -136,6 +136,67 @@ public final class TextEdgeTest {
         }
     }
 
+    /** Each TOKEN, and what is none, behind this much of a text: the text goes on (to its end, or is one), or that is its FAULT. */
+    private static void goesOn(String ahead, String fitting) {
+        String all = String.join(" ", ModelText.WORDS) + " ; = + - * / < ( ) q abcdefgh 0 7 9999 > . abcdefghi 12345 Q \u0000";
+        for (String token : all.split(" ")) {
+            boolean fits = (" " + fitting + " ").contains(" " + token + " ");
+            String text = ahead + " " + token;
+            HillDrums x = new HillDrums();
+            int fault = Check.read(x, text);
+            int end = fault == 0 ? NONE : text.length();
+            Check.due("read of " + text, fault == 1 || fits && fault == 0, true);
+            Check.due("place in " + text, x.place(), fits ? end : ahead.length() + 1);
+        }
+    }
+
+    private static void everyToken() {
+        String tells = "hill news hears wind fog order sleeper";
+        String ints = "0 7 9999";
+        String unit = ints + " far wind fog day from to (";
+        String names = "q abcdefgh";
+        for (String ahead : new String[] {"", "hill a 1 1;", LAND, "wind;", "fog 1 2;", "order any;", "hears=1;", LAND + "sleeper a n 1;"}) {
+            goesOn(ahead, tells);
+        }
+        goesOn("hill", names);
+        goesOn("hill a", ints);
+        goesOn("hill a 1", ints);
+        goesOn("hill a 1 1", ";");
+        goesOn("news", names);
+        goesOn("news n", "at");
+        goesOn("news n at", names);
+        goesOn(LAND + "news m at a", ";");
+        goesOn("hears", "=");
+        goesOn("hears=", "if " + unit);
+        goesOn("hears=if", unit);
+        goesOn("hears=if 1", "+ - * / <");
+        goesOn("hears=if 1<", unit);
+        goesOn("hears=if 1<2", "+ - * / then");
+        goesOn("hears=if 1<2 then", unit);
+        goesOn("hears=if 1<2 then 3", "+ - * / else");
+        goesOn("hears=if 1<2 then 3 else", "if " + unit);
+        goesOn("hears=1", "+ - * / ;");
+        goesOn("hears=far", "+ - * / ;");
+        goesOn("hears=(1)", "+ - * / ;");
+        for (String sign : new String[] {"+", "-", "*", "/"}) {
+            goesOn("hears=1" + sign, unit);
+            goesOn("hears=(1" + sign, unit);
+        }
+        goesOn("hears=(", unit);
+        goesOn("hears=(1", "+ - * / )");
+        goesOn("hears=if (1", "+ - * / )");
+        goesOn("wind", ints + " ;");
+        goesOn("wind 1 2", ints + " ;");
+        goesOn("fog", ints + " ;");
+        goesOn("fog 1 2", ints + " ;");
+        goesOn("order", "free topic any other");
+        goesOn("order free", ";");
+        goesOn("sleeper", names);
+        goesOn("sleeper a", names);
+        goesOn("sleeper a n", ints);
+        goesOn(LAND + "sleeper a n 1", ";");
+    }
+
     private static void longestTokens() {
         Check.fine("hill a 1 1;hill hh 1 1;hill hillhill 1 1;");
         Check.fault(1, "@hillhill a 1 1;");
@@ -383,12 +444,28 @@ public final class TextEdgeTest {
         }
     }
 
+    /** What was heard by the text ahead is no part of a CLASH. */
+    private static void nothingWasHeard() {
+        for (boolean denied : new boolean[] {false, true}) {
+            HillDrums x = Check.land(2, "news n at a;");
+            x.drum(0, 0, denied);
+            Check.due("read", Check.read(x, "hill a 0 0; hill b 0 5; news n at a;"), 0);
+            Check.due("b knows nothing", x.news(1, 0, 0), 0);
+            Check.due("drum", x.drum(0, 0, !denied), 1);
+            Check.due("no clash", x.clashes(0), 0);
+            Check.due("first", x.news(1, 0, 3), denied ? 0 : 1);
+            Check.due("drum", x.drum(0, 0, denied), 1);
+            Check.due("now it is one", x.clashes(0), 2);
+        }
+    }
+
     public static void main(String[] args) {
         newObject();
         tapeOf2000();
         textOf2000();
         twentyBytes();
         everyByte();
+        everyToken();
         longestTokens();
         manyThings();
         ifsAndBrackets();
@@ -399,6 +476,7 @@ public final class TextEdgeTest {
         placeOfTheLatest();
         faultsChangeNothing();
         goodTextsChangeAll();
+        nothingWasHeard();
         Check.end();
     }
 }

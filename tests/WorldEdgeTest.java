@@ -106,6 +106,16 @@ public final class WorldEdgeTest {
         law("5 + 1 / (8 - far)", 1);
     }
 
+    private static void dividedByNothingAgainAndAgain() {
+        for (int less = 2; less <= 4; less++) {
+            HillDrums x = Check.told("hill a 0 0; hill b 0 0; hears = 9 - (8 - (7 - (6 - (5 - 4 / to)))) - " + less + ";");
+            for (int day = 0; day < 100; day++) {
+                Check.due("divided by 0 on day " + day, x.hears(1, 0, day), 0);
+                Check.due("divided by 1 on day " + day, x.hears(0, 1, day), less < 3 ? 1 : 0);
+            }
+        }
+    }
+
     private static void whatALawKnows() {
         law("8 - far", 1);
         law("7 - far", 0);
@@ -517,6 +527,7 @@ public final class WorldEdgeTest {
         roundedTowardsNothing();
         oneLessThanTheOther();
         dividedByNothing();
+        dividedByNothingAgainAndAgain();
         whatALawKnows();
         rowsByDays();
         whatOfNews();

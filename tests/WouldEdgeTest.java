@@ -213,6 +213,29 @@ public final class WouldEdgeTest {
         }
     }
 
+    /** Only those that KNEW it say it, and no two that hear each other on one day, where there is but one day for it. */
+    private static void whoSaysIt() {
+        HillDrums x = Check.land(3, "news n at b; hears = 0" + pair(1) + pair(2) + pair(10) + ";");
+        plans(x, 2, 2, 2, 2);
+        plans(Check.land(4, "news n at c; hears = 0" + pair(1) + pair(3) + pair(20) + ";"), 3, 2, 2, 2);
+        plans(Check.land(3, "news n at c; hears = 0" + pair(1) + pair(2) + pair(12) + ";"), 1, -2, -2, -2);
+        for (int order = 0; order < 4; order++) {
+            boolean both = order == 0 || order == 3;
+            String begin = "news n at a; order " + ORDERS[order] + "; hears = if day < 1 then to * (2 - to) else ";
+            // b knows it since today; a and b hear each other, c hears a, d hears b: on day 2 alone, or on days 2 and 3.
+            for (int last = 2; last <= 3; last++) {
+                String days = "(day - 1) * (" + last + " + 1 - day) * (0";
+                x = Check.land(4, begin + days + pair(1) + pair(10) + pair(2) + pair(13) + ");");
+                x.drum(0, 0, false);
+                boolean found = both || last == 3;
+                plans(x, 2, 2, both ? 2 : found ? 3 : -2, found ? 2 : -2);
+                x = Check.land(4, begin + days + pair(10) + pair(2) + pair(13) + ");");
+                x.drum(0, 0, false);
+                plans(x, 3, 2, 2, 2);
+            }
+        }
+    }
+
     private static void sizes() {
         HillDrums x = Check.land(6, "news n at f; news m at f; news o at f; news p at f; hears = from;");
         Check.due("f to all", x.all(3), 1);
@@ -348,6 +371,7 @@ public final class WouldEdgeTest {
         quietAsleep();
         within60Days();
         plansBegin();
+        whoSaysIt();
         sizes();
         loopholesOf3();
         saidAheadOfDenied();
