@@ -1,4 +1,5 @@
 import java.io.IOException;
+import java.lang.reflect.Array;
 import java.lang.reflect.Constructor;
 import java.lang.reflect.Field;
 import java.lang.reflect.Method;
@@ -6,6 +7,7 @@ import java.lang.reflect.Modifier;
 import java.nio.file.Files;
 import java.nio.file.Path;
 import java.util.ArrayList;
+import java.util.IdentityHashMap;
 import java.util.List;
 import java.util.Set;
 import java.util.TreeSet;
@@ -104,6 +106,38 @@ public final class LanguageTest {
         }
     }
 
+    /** Objects and arrays in cell 0, their fields and elements in cell 1, of all that an object holds. */
+    private static void weigh(Object held, IdentityHashMap<Object, Boolean> seen, long[] room) throws IllegalAccessException {
+        if (held == null || seen.put(held, true) != null) {
+            return;
+        }
+        room[0]++;
+        if (held.getClass().isArray()) {
+            room[1] += Array.getLength(held);
+            for (int i = 0; i < Array.getLength(held) && !held.getClass().getComponentType().isPrimitive(); i++) {
+                weigh(Array.get(held, i), seen, room);
+            }
+            return;
+        }
+        for (Field field : held.getClass().getDeclaredFields()) {
+            if (!Modifier.isStatic(field.getModifiers())) {
+                room[1]++;
+                field.setAccessible(true);
+                if (!field.getType().isPrimitive()) {
+                    weigh(field.get(held), seen, room);
+                }
+            }
+        }
+    }
+
+    /** Even a run that makes a new object by each of 512 calls stays within 600,000 objects and 7,300,000 elements. */
+    private static void room() throws IllegalAccessException {
+        long[] room = new long[2];
+        weigh(new HillDrums(), new IdentityHashMap<>(), room);
+        Check.due(room[0] + " objects and arrays", 512 * room[0] <= 600000, true);
+        Check.due(room[1] + " fields and elements", 512 * room[1] <= 7300000, true);
+    }
+
     private static void lengths(List<String> lines) {
         int from = -1;
         for (int i = 0; i < lines.size(); i++) {
@@ -116,10 +150,11 @@ public final class LanguageTest {
         }
     }
 
-    public static void main(String[] args) throws IOException {
+    public static void main(String[] args) throws IOException, IllegalAccessException {
         Path file = Path.of("src/main/java/HillDrums.java");
         List<String> lines = new ArrayList<>(Files.readAllLines(file));
         face();
+        room();
         words(Files.readString(file));
         made(lines);
         lengths(lines);

@@ -459,6 +459,33 @@ public final class TextEdgeTest {
         }
     }
 
+    /** Nothing that a text told is left two texts later, nor when it had a FAULT: as if the last text were the only one. */
+    private static void earlierTexts() {
+        String rich = "hill a 0 0; hill b 0 1; hill c 0 2; news n at a; news m at b; hears = if far < 2 then 9 else fog;"
+            + "wind 1 2 3; fog 4 5; order free; sleeper a n 1; sleeper b n 1; sleeper b m 1; sleeper c m 2;";
+        String plain = "hill a 0 0; hill b 0 9; hill c 0 18; news n at a; news m at b;";
+        String[][] ahead = {{rich}, {rich, plain}, {rich, "", plain}, {rich + "x"}, {rich, plain, rich + "hill a 1 1;"}, {plain, rich + "("}};
+        for (String[] texts : ahead) {
+            HillDrums x = new HillDrums();
+            for (String text : texts) {
+                Check.read(x, text);
+                x.run(3);
+            }
+            HillDrums y = Check.told(plain);
+            Check.due("read of the last text", Check.read(x, plain), 0);
+            String what = "behind " + texts.length + " texts";
+            Check.due(what + ": a says n, b says m, nobody asleep drums", x.talk(1), 2);
+            for (int day = 0; day < 3; day++) {
+                Seen.same(what, x, y);
+                Check.due(what + ": talk", x.talk(9), y.talk(9));
+                Check.due(what + ": night", x.night(), y.night());
+                Check.due(what + ": no drum by night", x.count(4), 0);
+            }
+            Check.due(what + ": run", x.run(4), y.run(4));
+            Seen.sameToTheEnd(what, x, y);
+        }
+    }
+
     public static void main(String[] args) {
         newObject();
         tapeOf2000();
@@ -477,6 +504,7 @@ public final class TextEdgeTest {
         faultsChangeNothing();
         goodTextsChangeAll();
         nothingWasHeard();
+        earlierTexts();
         Check.end();
     }
 }
